@@ -85,8 +85,8 @@ public final class FourSledge {
     private final Ride otherRide = new Ride();
     private final Plan[] past = new Plan[MOST_UNDONE];
     private final Image[] images = new Image[IMAGES];
-    private final Advice jumpAdvice = new Advice(CREW);
-    private final Advice lineAdvice = new Advice(MOST_BENDS);
+    private final Advice jumpAdvice = new Advice();
+    private final Advice lineAdvice = new Advice();
     private Course course = new Course(0);
     private Sentence sentence = null;
     private JumpSearch jumpSearch = null;
@@ -161,7 +161,7 @@ public final class FourSledge {
     public int sentence() {
         Sentence told = new Sentence();
         tape.open(SENTENCE_BYTES);
-        boolean good = told.readFrom(tape, course);
+        boolean good = told.readCond(tape, course, 1);
         if (good) {
             sentence = told;
         }
@@ -490,14 +490,13 @@ public final class FourSledge {
         }
         JumpSearch search = jumpSearcher();
         trial.copyFrom(plan);
-        trial.crewed = true;
         int leastTime = NONE;
         int leastSet = NONE;
         for (int a = 0; a < course.men; a++) {
             for (int b = a + 1; b < course.men; b++) {
                 for (int c = b + 1; c < course.men; c++) {
                     for (int d = c + 1; d < course.men; d++) {
-                        trial.name(a, b, c, d);
+                        trial.putCrew(a, b, c, d);
                         int time = search.leastTime(course, trial, ride);
                         if (time != NONE && (leastTime == NONE || time < leastTime)) {
                             leastTime = time;
@@ -712,6 +711,8 @@ public final class FourSledge {
     private static final class Reader {
         private static final int MOST_BYTES = 940;
         private static final int FED_BYTES = 20;
+        /** None and 26: unlike WORDS are unlike numbers. */
+        private static final int LETTERS = 27;
         static final int END = 0;
         static final int NO_TOKEN = 1;
         static final int WORD = 2;
@@ -730,8 +731,19 @@ public final class FourSledge {
         int number = 0;
         int faultKind = 0;
         int faultPlace = 0;
+        private final long[] wordNames = new long[WORD_COUNT];
         private int at = 0;
         private int mostBytes = 0;
+
+        Reader() {
+            for (int i = 0; i < WORDS.length(); i++) {
+                int sign = WORDS.charAt(i);
+                int w = i / WORD_SIGNS;
+                if (sign != ' ' && w < WORD_COUNT) {
+                    wordNames[w] = wordNames[w] * LETTERS + sign - 'a' + 1;
+                }
+            }
+        }
 
         boolean hasRoom() {
             return length + FED_BYTES <= MOST_BYTES;
@@ -751,13 +763,11 @@ public final class FourSledge {
         void open(int most) {
             mostBytes = most;
             at = 0;
-            faultKind = 0;
-            faultPlace = 0;
             advance();
         }
 
         void advance() {
-            while (at < length && isBlank(byteAt(at))) {
+            while (at < length && (bytes[at] == 32 || bytes[at] == 10)) {
                 at++;
             }
             place = at;
@@ -766,74 +776,52 @@ public final class FourSledge {
                 kind = NO_TOKEN;
             } else if (at >= length) {
                 kind = END;
-            } else if (goesOn(byteAt(at))) {
-                readRow();
-            } else {
-                kind = isSign(byteAt(at)) ? byteAt(at) : NO_TOKEN;
+            } else if (isSign(bytes[at])) {
+                kind = bytes[at];
                 at++;
+            } else {
+                readRow();
+                value = kind == WORD ? wordNamed(name) : value;
             }
         }
 
+        /** A row too long for a WORD or NUMBER may wrap: what it adds up to is not looked at then. */
         private void readRow() {
             int letters = 0;
-            for (; at < length && goesOn(byteAt(at)); at++) {
-                letters += isLetter(byteAt(at)) ? 1 : 0;
-            }
-            int signs = at - place;
-            kind = NO_TOKEN;
-            if (letters == signs && signs <= WORD_SIGNS) {
-                kind = WORD;
-                readWord(signs);
-            } else if (letters == 0 && signs <= NUMBER_SIGNS) {
-                kind = NUMBER;
-                readNumber(signs);
-            }
-        }
-
-        private void readWord(int signs) {
-            name = 0;
-            for (int i = 0; i < signs; i++) {
-                name = name * 27 + (byteAt(place + i) - 'a' + 1);
-            }
-            value = NONE;
-            for (int w = 0; w < WORD_COUNT && value == NONE; w++) {
-                if (isWord(w, signs)) {
-                    value = w;
-                }
-            }
-        }
-
-        private boolean isWord(int w, int signs) {
-            for (int i = 0; i < WORD_SIGNS; i++) {
-                int sign = i < signs ? byteAt(place + i) : ' ';
-                if (WORDS.charAt(w * WORD_SIGNS + i) != sign) {
-                    return false;
-                }
-            }
-            return true;
-        }
-
-        private void readNumber(int signs) {
+            int digits = 0;
             value = 0;
-            for (int i = 0; i < signs; i++) {
-                value = value * 10 + (byteAt(place + i) - '0');
+            name = 0;
+            for (; at < length; at++) {
+                int sign = bytes[at];
+                if (sign >= 'a' && sign <= 'z') {
+                    letters++;
+                    name = name * LETTERS + sign - 'a' + 1;
+                } else if (sign >= '0' && sign <= '9') {
+                    digits++;
+                    value = value * 10 + sign - '0';
+                } else {
+                    break;
+                }
+            }
+            kind = NO_TOKEN;
+            if (digits == 0 && letters > 0 && letters <= WORD_SIGNS) {
+                kind = WORD;
+            } else if (letters == 0 && digits > 0 && digits <= NUMBER_SIGNS) {
+                kind = NUMBER;
             }
         }
 
-        private static boolean isBlank(int sign) {
-            return sign == 32 || sign == 10;
-        }
-
-        private static boolean isLetter(int sign) {
-            return sign >= 'a' && sign <= 'z';
-        }
-
-        private static boolean goesOn(int sign) {
-            return isLetter(sign) || sign >= '0' && sign <= '9';
+        private int wordNamed(long sought) {
+            for (int w = 0; w < WORD_COUNT; w++) {
+                if (wordNames[w] == sought) {
+                    return w;
+                }
+            }
+            return NONE;
         }
 
         private static boolean isSign(int sign) {
-            return sign == ';' || sign >= '<' && sign <= '>' || sign == '(' || sign == ')';
+            return sign == ';' || sign == '<' || sign == '=' || sign == '>' || sign == '(' || sign == ')';
         }
 
         boolean fail(int fault) {
@@ -865,15 +853,28 @@ public final class FourSledge {
         }
 
         boolean takeNumber(int least, int most) {
-            if (kind != NUMBER) {
-                return fail(FAULT_TOKEN);
-            }
-            if (value < least || value > most) {
-                return fail(FAULT_NUMBER);
+            if (!isNumberWithin(least, most)) {
+                return false;
             }
             number = value;
             advance();
             return true;
+        }
+
+        boolean takeInto(int[] row, int i, int least, int most) {
+            if (i < 0 || i >= row.length || !isNumberWithin(least, most)) {
+                return false;
+            }
+            row[i] = value;
+            advance();
+            return true;
+        }
+
+        private boolean isNumberWithin(int least, int most) {
+            if (kind != NUMBER) {
+                return fail(FAULT_TOKEN);
+            }
+            return value >= least && value <= most || fail(FAULT_NUMBER);
         }
     }
 
@@ -976,7 +977,7 @@ public final class FourSledge {
             }
             settingsTold |= 1 << which;
             reader.advance();
-            return readInto(reader, settings, which, SETTING_LEAST[which], SETTING_MOST[which]);
+            return reader.takeInto(settings, which, SETTING_LEAST[which], SETTING_MOST[which]);
         }
 
         private boolean readMan(Reader reader) {
@@ -985,9 +986,9 @@ public final class FourSledge {
             }
             reader.advance();
             boolean good = readName(reader, manName, men)
-                && readInto(reader, push, men, 1, 9)
-                && readInto(reader, feet, men, 1, 9)
-                && readInto(reader, weight, men, 50, 150);
+                && reader.takeInto(push, men, 1, 9)
+                && reader.takeInto(feet, men, 1, 9)
+                && reader.takeInto(weight, men, 50, 150);
             men += good ? 1 : 0;
             return good;
         }
@@ -997,10 +998,10 @@ public final class FourSledge {
                 return reader.fail(FAULT_MANY);
             }
             reader.advance();
-            boolean good = readInto(reader, length, bends, 1, 9)
-                && readInto(reader, drop, bends, 0, 9)
-                && readInto(reader, ideal, bends, 0, 9)
-                && readInto(reader, over, bends, 1, 99);
+            boolean good = reader.takeInto(length, bends, 1, 9)
+                && reader.takeInto(drop, bends, 0, 9)
+                && reader.takeInto(ideal, bends, 0, 9)
+                && reader.takeInto(over, bends, 1, 99);
             bends += good ? 1 : 0;
             return good;
         }
@@ -1011,8 +1012,8 @@ public final class FourSledge {
             }
             reader.advance();
             boolean good = readName(reader, runnerName, runners)
-                && readInto(reader, bestAt, runners, 0, 20)
-                && readInto(reader, bad, runners, 0, 9);
+                && reader.takeInto(bestAt, runners, 0, 20)
+                && reader.takeInto(bad, runners, 0, 9);
             runners += good ? 1 : 0;
             return good;
         }
@@ -1026,14 +1027,6 @@ public final class FourSledge {
             }
             names[i] = reader.name;
             reader.advance();
-            return true;
-        }
-
-        private static boolean readInto(Reader reader, int[] row, int i, int least, int most) {
-            if (!reader.takeNumber(least, most)) {
-                return false;
-            }
-            row[i] = reader.number;
             return true;
         }
     }
@@ -1073,7 +1066,8 @@ public final class FourSledge {
             System.arraycopy(other.high, 0, high, 0, MOST_BENDS);
         }
 
-        void name(int a, int b, int c, int d) {
+        void putCrew(int a, int b, int c, int d) {
+            crewed = true;
             crew[0] = a;
             crew[1] = b;
             crew[2] = c;
@@ -1227,14 +1221,8 @@ public final class FourSledge {
         private int steps = 0;
         int ones = 0;
 
-        boolean readFrom(Reader reader, Course course) {
-            if (!readCond(reader, course, 1)) {
-                return false;
-            }
-            return reader.kind == Reader.END || reader.fail(FAULT_TOKEN);
-        }
-
-        private boolean readCond(Reader reader, Course course, int depth) {
+        /** All of the text at depth 1; deeper, what stands in brackets. */
+        boolean readCond(Reader reader, Course course, int depth) {
             if (!readAll(reader, course, depth)) {
                 return false;
             }
@@ -1245,7 +1233,7 @@ public final class FourSledge {
                 }
                 addStep(OR_WORD, 0, 0);
             }
-            return true;
+            return depth > 1 || reader.kind == Reader.END || reader.fail(FAULT_TOKEN);
         }
 
         private boolean readAll(Reader reader, Course course, int depth) {
@@ -1394,14 +1382,13 @@ public final class FourSledge {
 
         int timeInAll(Course course, Plan plan) {
             toLine(course, plan);
-            total = NONE;
-            lastPace = startPace;
-            gone = 0;
-            overAt = NONE;
+            int down = NONE;
             if (weight <= course.settings[MOST_WORD]) {
-                int down = wayDown(course, plan, startPace, weight);
-                total = down == NONE ? NONE : startTime + down;
+                down = wayDown(course, plan, startPace, weight);
+            } else {
+                standAtLine(startPace);
             }
+            total = down == NONE ? NONE : startTime + down;
             return total;
         }
 
@@ -1480,13 +1467,18 @@ public final class FourSledge {
             return (seed >>> 8) % 8 == 0;
         }
 
+        private void standAtLine(int paceAtLine) {
+            lastPace = paceAtLine;
+            gone = 0;
+            overAt = NONE;
+        }
+
         /** TIME from the line down, NONE if it turns OVER. */
         int wayDown(Course course, Plan plan, int paceAtLine, int weightDown) {
             int pace = paceAtLine;
             int time = 0;
             int heightAhead = 0;
-            gone = 0;
-            overAt = NONE;
+            standAtLine(paceAtLine);
             for (int b = 0; b < course.bends; b++) {
                 int height = plan.high[b];
                 pace = bounded(pace + course.steadyChange(b, plan, weightDown)
@@ -1552,7 +1544,6 @@ public final class FourSledge {
                 turnOverRows();
             }
             long least = leastWayDown(course, plan, ride, weight);
-            clearRow();
             if (least == UNSEEN) {
                 return NONE;
             }
@@ -1587,9 +1578,6 @@ public final class FourSledge {
             if (out <= yardsLeft) {
                 reachState(in, 0, pace, way + ((long) timeFor(1, pace) << 32));
             }
-            if (out > yardsLeft + 1) {
-                return;
-            }
             for (int place = 0; place < CREW; place++) {
                 if ((in >> place & 1) == 0 && pace <= reach[place] + 20) {
                     int behind = bounded(pace - (crowded ? 6 : 2));
@@ -1618,8 +1606,11 @@ public final class FourSledge {
             nextWays[state] = Math.min(nextWays[state], way);
         }
 
+        /** Only what was reached is wiped: wiping all would cost more than the search. */
         private void turnOverRows() {
-            clearRow();
+            for (int i = 0; i < stateCount; i++) {
+                ways[states[i]] = UNSEEN;
+            }
             long[] spareWays = ways;
             int[] spareStates = states;
             ways = nextWays;
@@ -1628,14 +1619,6 @@ public final class FourSledge {
             nextWays = spareWays;
             nextStates = spareStates;
             nextCount = 0;
-        }
-
-        /** Only what was reached is wiped: wiping all would cost more than the search. */
-        private void clearRow() {
-            for (int i = 0; i < stateCount; i++) {
-                ways[states[i]] = UNSEEN;
-            }
-            stateCount = 0;
         }
 
         private long leastWayDown(Course course, Plan plan, Ride ride, int weight) {
@@ -1724,15 +1707,11 @@ public final class FourSledge {
 
     /** What best() or line() told last, and of which COURSE and crew. */
     private static final class Advice {
-        final int[] values;
+        final int[] values = new int[MOST_BENDS];
         private final int[] crew = new int[CREW];
         private int size = 0;
         private boolean told = false;
         private int serial = 0;
-
-        Advice(int places) {
-            values = new int[places > 0 ? places : 1];
-        }
 
         void note(Course course, Plan plan, int[] advised, int count) {
             told = true;

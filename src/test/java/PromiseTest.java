@@ -98,6 +98,10 @@ public final class PromiseTest {
         }
         due("new: fault()", x.fault(), 0);
         due("new: NONE", FourSledge.NONE, -1);
+        due("new: undo()", x.undo(), -1);
+        due("new: when(0)", x.when(0), -1);
+        due("new: height(0)", x.height(0), -1);
+        due("new: restore(0)", x.restore(0), false);
     }
 
     private static void promise2() {
@@ -160,6 +164,7 @@ public final class PromiseTest {
             + "bend 1 0 0 1;".repeat(12)), 30);
         due("edges", Texts.course(x, "yards 40;sledge 100;most 300;ice 9;warm 20;man a 9 9 150;runner b 20 9;"), 7);
         due("leading 0", Texts.course(x, "ice 007;"), 1);
+        names();
         courseFaults();
     }
 
@@ -169,6 +174,25 @@ public final class PromiseTest {
             s.append(word).append(' ').append((char) ('a' + i)).append(rest);
         }
         return s.toString();
+    }
+
+    /** NAMES alike but for one letter, its place or their length are unlike. */
+    private static void names() {
+        FourSledge x = new FourSledge();
+        String[] names = {"ab", "ba", "aa", "a", "b", "abcdefg", "abcdefh", "bbcdefg", "zz", "z", "zzzzzzz", "yz"};
+        StringBuilder course = new StringBuilder("yards 5;");
+        for (int i = 0; i < names.length; i++) {
+            course.append("man ").append(names[i]).append(" 1 9 ").append(50 + i).append(';');
+        }
+        due("twelve NAMES", Texts.course(x, course.toString()), 13);
+        for (int i = 0; i + 3 < names.length; i++) {
+            due("crew of NAMES", Texts.plan(x, "crew " + names[i + 3] + " " + names[i] + "\n" + names[i + 2] + " "
+                + names[i + 1] + ";"), 1);
+            due("place of " + names[i], x.man(i, 3), 1);
+            due("place of " + names[i + 1], x.man(i + 1, 3), 3);
+            due("place of " + names[i + 3], x.man(i + 3, 3), 0);
+        }
+        due("NAMES that begin as WORDS", Texts.course(x, "man yard 1 1 50;man yardsa 1 1 50;man ons 1 1 50;"), 3);
     }
 
     private static void courseFaults() {
@@ -183,6 +207,15 @@ public final class PromiseTest {
         courseFault("man a 0 1 50;", 2, 6);
         courseFault("man a 1 10 50;", 2, 8);
         courseFault("man a 1 1 151;", 2, 10);
+        courseFault("man a 1 1 49;", 2, 10);
+        courseFault("man a 10 1 50;", 2, 6);
+        courseFault("man a 1 0 50;", 2, 8);
+        courseFault("bend 10 1 1 1;", 2, 5);
+        courseFault("man a z 1 50;", 1, 6);
+        courseFault("{ice 1;", 1, 0);
+        courseFault("`ice 1;", 1, 0);
+        courseFault("ice 1:", 1, 5);
+        courseFault("ice /;", 1, 4);
         courseFault("bend 0 1 1 1;", 2, 5);
         courseFault("bend 1 10 1 1;", 2, 7);
         courseFault("bend 1 1 10 1;", 2, 9);
@@ -451,6 +484,17 @@ public final class PromiseTest {
         // 104 * 2 = 208 is above 20 * 10, not above 20 * 11.
         due("OVER 10", told(COURSE.replace("2 9;", "2 10;"), OVER).run(3), 1);
         due("OVER 11", told(COURSE.replace("2 9;", "2 11;"), OVER).run(3), -1);
+        String edge = "yards 5;sledge 200;most 800;ice 0;man a 9 9 100;man b 8 9 90;man c 7 5 70;man d 6 9 110;"
+            + "bend 1 2 5 99;bend 7 5 5 25;";
+        FourSledge even = told(edge.replace("bend 7 5", "bend 7 3").replace("5 25", "5 24"), OVER);
+        due("83 + 10 - 10 + 15 = 98: 490 above 480", even.run(3), 1);
+        even = told(edge.replace("bend 1 2", "bend 1 4").replace("bend 7 5", "bend 7 1").replace("5 25", "5 24"),
+            OVER + "lead 66;");
+        // 83 + 4 * 566 / 100 - 10 = 95, + 5 = 100: 500 above 480.
+        due("100: 500 above 480", even.run(3), 1);
+        even = told(edge.replace("bend 1 2", "bend 1 4").replace("bend 7 5", "bend 7 1"), OVER + "lead 66;");
+        due("100: 500 not above 500", even.run(3), -1);
+        due("TIME 31 and 210", even.run(0), 197 + 31 + 210);
         // r takes 2: BEND 0: 82, TIME 73; BEND 1: 82 + 25 - 10 - 2 = 95, TIME 94.
         x.set(1, 1);
         due("on r", x.run(0), 197 + 73 + 94);
@@ -513,6 +557,8 @@ public final class PromiseTest {
         due("lead 99", x.set(0, 99), true);
         due("lead 100", x.set(0, 100), false);
         due("lead -1", x.set(0, -1), false);
+        due("lead 0 again", x.set(0, 0), true);
+        due("lead 99 again", x.set(0, 99), true);
         due("RUNNER as it is", x.set(1, 0), false);
         due("RUNNER 1", x.set(1, 1), true);
         due("RUNNER 2", x.set(1, 2), false);
@@ -526,7 +572,8 @@ public final class PromiseTest {
         due("lead", x.count(8), 99);
         due("RUNNER", x.count(9), 1);
         due("number", x.count(10), 60);
-        due("three can be undone", x.undo(), 2);
+        due("RUNNER 0 again", x.set(1, 0), true);
+        due("six can be undone", x.undo(), 5);
         FourSledge none = nobody();
         due("no crew: lead", none.set(0, 1), true);
         due("no crew: RUNNER", none.set(1, 1), true);
@@ -545,6 +592,9 @@ public final class PromiseTest {
         due("who is in", x.start(2), 11);
         due("how d jumps", x.jumps(0), 0);
         due("alike", x.swap(1, 1), false);
+        due("swap(3, 0) back and again", x.swap(3, 0) && x.swap(0, 3), true);
+        x.undo();
+        x.undo();
         due("swap(0, 4)", x.swap(0, 4), false);
         due("swap(4, 0)", x.swap(4, 0), false);
         due("swap(-1, 0)", x.swap(-1, 0), false);
@@ -687,6 +737,18 @@ public final class PromiseTest {
         FourSledge straight = told(COURSE.replace("bend 2 2 4 40;bend 3 5 2 9;", ""), OVER);
         due("no BENDS", straight.line(), 197);
         due("no BENDS: height(0)", straight.height(0), -1);
+        due("no BENDS: taken", straight.take(0), true);
+        due("just not above 'most'", told(COURSE.replace("most 800", "most 500"), PLAN).line(), x.line());
+        FourSledge fast = told("yards 5;most 900;ice 0;man a 9 9 150;man b 9 9 150;man c 9 9 150;man d 9 9 150;"
+            + "bend 9 9 0 99;".repeat(6), CREW);
+        due("250 at most: line()", fast.line(), fast.run(0));
+        due("250 at most", fast.behind(5), 250);
+        FourSledge many = told("yards 5;most 900;man a 9 9 50;man b 9 9 50;man c 9 9 50;man d 9 9 50;"
+            + "bend 1 1 3 99;".repeat(12), CREW);
+        due("twelve BENDS", many.line() > 0, true);
+        many.take(0);
+        due("twelve BENDS: planned", many.run(0), many.line());
+        due("the twelfth", many.height(11), many.bend(11, 4));
         Texts.plan(x, "");
         due("NONE without a crew", x.line(), -1);
         due("the latest that was not NONE", x.height(0), first);
@@ -897,6 +959,10 @@ public final class PromiseTest {
         due("touch(2, 1)", x.touch(2, 1), NO);
         due("touch(-1, 1)", x.touch(-1, 1), NO);
         due("the run is as it was", x.run(0), 358);
+        due("touched again", x.touch(1, 4), 4);
+        x.keep();
+        due("what is kept is not touched", x.lost(3), 0);
+        due("touch(0, 1): 83, TIME 72; 98, TIME 91", x.touch(0, 1), 2);
         due("no TIME without", over().touch(0, 99), NO);
         due("no crew", nobody().touch(0, 1), NO);
         due("not a whole bend: OVER is looked at ahead of it", told(COURSE.replace("2 9;", "2 10;"), OVER)
@@ -910,6 +976,10 @@ public final class PromiseTest {
         // 4 draws 1, 0, 2, 0: b and d kick: 232 with 52, 111 and 125 down.
         due("drawn(4)", x.drawn(4), 468);
         due("drawn(2): none", x.drawn(2), 358);
+        for (int seed = 0; seed < 8; seed++) {
+            x.drawn(seed);
+            due("the run is as it was behind seed " + seed, x.run(0), 358);
+        }
         // The highest bit never reaches a draw.
         due("drawn(least)", x.drawn(Integer.MIN_VALUE), x.drawn(0));
         due("the run is as it was", x.run(0), 358);
@@ -1013,6 +1083,13 @@ public final class PromiseTest {
         said(x, "not (number = 1 and number < 3)", 4, 0, 2, 3, 4, 5);
         said(x, "not not crew", 3, 0, 1, 2, 3);
         said(x, "weight > 999", 1);
+        said(x, "gets", 1, 0, 1, 3);
+        said(x, "number=9 or ".repeat(14) + "push=4", 15);
+        said(x, "number=9 or ".repeat(14) + "feet=5", 15, 2);
+        said(x, "(gets or crew or gets)and crew and crew and crew and crew and crew and crew and crew and crew and crew"
+            + " and crew and crew and crew and crew and crew and crew", 19, 0, 1, 2, 3);
+        said(x, "crew and crew and crew and crew and crew and crew and crew and crew and crew and crew and crew and crew"
+            + " and crew and crew and crew and crew and crew and crew and crew and gets", 20, 0, 1, 3);
         said(x, "gets", 1, 0, 1, 3);
         due("said(-2)", x.said(-2), -1);
         due("said(least)", x.said(Integer.MIN_VALUE), -1);
