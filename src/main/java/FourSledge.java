@@ -862,7 +862,10 @@ public final class FourSledge {
         }
 
         boolean takeInto(int[] row, int i, int least, int most) {
-            if (i < 0 || i >= row.length || !isNumberWithin(least, most)) {
+            if (i < 0 || i >= row.length) {
+                return fail(FAULT_MANY);
+            }
+            if (!isNumberWithin(least, most)) {
                 return false;
             }
             row[i] = value;
@@ -1346,8 +1349,10 @@ public final class FourSledge {
                     return compares(course.feet[man], i);
                 case WEIGHT_WORD:
                     return compares(course.weight[man], i);
-                default:
+                case NUMBER_WORD:
                     return compares(man, i);
+                default:
+                    return false;
             }
         }
 
@@ -1510,7 +1515,7 @@ public final class FourSledge {
         private static final int SLOTS = 32;
         private static final int STATES = SLOTS * PACES;
         private static final int ALL_IN = 15;
-        private static final long UNSEEN = Long.MAX_VALUE;
+        private static final long UNSEEN = 1L << 62;
 
         final int[] yards = new int[CREW];
         private final int[] push = new int[CREW];
@@ -1646,7 +1651,7 @@ public final class FourSledge {
     private static final class LineSearch {
         private static final int HEIGHTS = MOST_HEIGHT + 1;
         private static final int STATES = PACES * HEIGHTS;
-        private static final long UNSEEN = Long.MAX_VALUE;
+        private static final long UNSEEN = 1L << 62;
         /** One of TIME, above a digit for each of twelve BENDS. */
         private static final long ONE_OF_TIME = 1000000000000L;
 

@@ -82,8 +82,8 @@ final class Model {
         }
     }
 
-    /** A PLAN; lists are replaced, never changed, so a copy is shallow. */
-    static final class PlanText implements Cloneable {
+    /** A PLAN. */
+    static final class PlanText {
         List<Integer> crew = null;
         Map<Integer, Integer> jumps = new HashMap<>(); // by MAN
         Map<Integer, Integer> heights = new HashMap<>();
